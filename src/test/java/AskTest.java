@@ -213,6 +213,8 @@ public final class AskTest {
         Due.is("who", y.makeUp(2, 1), 0);
         Due.is("whom", y.makeUp(2, 2), 1);
         Due.is("now", y.taken(2), 2);
+        NextStall alike = Due.of("fair 1 0;stall 9 1 8;stall 9 3 4;grudge 1 0;buyer 30 1");
+        Due.is("of several none", alike.makeUp(2, 1), -2);
         Due.is("n 0", y.makeUp(0, 0), -1);
         Due.is("n 41", y.makeUp(41, 0), -1);
         Due.is("what 3", y.makeUp(1, 3), -1);
@@ -246,6 +248,12 @@ public final class AskTest {
         Due.is("none for 1", x.swaps(1, 0), 0);
         Due.is("none", x.swaps(1, 1), -2);
         Due.is("none", x.swaps(1, 2), -2);
+        // The same with 0 and 1 by each other's names.
+        NextStall y = Due.of("fair 1 0;stall 4 2 9;stall 1 3 2;stall 4 1 5;buyer 50 1");
+        y.move(0, 1);
+        Due.is("one", y.swaps(2, 0), 1);
+        Due.is("first", y.swaps(2, 1), 0);
+        Due.is("none for 1", y.swaps(1, 0), 0);
         Due.is("n 0", x.swaps(0, 0), -1);
         Due.is("n 41", x.swaps(41, 0), -1);
         Due.is("what 3", x.swaps(1, 3), -1);

@@ -11,6 +11,8 @@ public final class MinuteTest {
         nobody();
         handedOnAllAtOnce();
         halfDownwards();
+        threeMoreForWhatTheyCameFor();
+        theLastMinute();
         Due.end();
     }
 
@@ -138,5 +140,26 @@ public final class MinuteTest {
     private static void halfDownwards() {
         NextStall x = Due.of("fair 1 0;stall 1 1 7;stall 1 1 1;grudge 0 1;grudge 1 0");
         stalls(x, 6, 0, 3);
+    }
+
+    private static void threeMoreForWhatTheyCameFor() {
+        int[] due = {9, 9, 4, 4};
+        for (int more = 1; more <= 4; more++) {
+            // Goods of 0 are praised 5 and so many more, those of 1, for which they came, 5.
+            NextStall x = Due.of("fair 1 0;stall 1 4 5;stall 1 9 " + (5 + more) + ";buyer 20 1");
+            Due.is("praised " + more + " more", x.minute(), due[more - 1]);
+        }
+    }
+
+    /** Beyond 512 calls nothing is promised; the limit stands all the same. */
+    private static void theLastMinute() {
+        NextStall x = Due.of("fair 7 0;stall 1 1 0");
+        for (int i = 0; i < 999; i++) {
+            x.minute();
+        }
+        Due.is("MINUTE", x.count(6), 999);
+        Due.is("999 at most", x.minute(), -1);
+        Due.is("MINUTE", x.count(6), 999);
+        Due.is("MINUTES that are asked go on", x.out(0), -2);
     }
 }
