@@ -1,6 +1,6 @@
 import java.lang.management.ManagementFactory;
 
-/** All calls of a run live in one room: no call makes an object, and the dearest run is not slow. */
+/** All calls of a run live in one room: no call makes an object, and a new one of the class is small. */
 public final class RoomTest {
     private static final String FAIR = "fair 3 4" + ";stall 20 2 9;stall 20 3 8".repeat(3)
             + ";grudge 0 1;grudge 1 2;grudge 2 3;grudge 3 0" + ";buyer 99 0;buyer 99 5".repeat(3);
@@ -26,7 +26,7 @@ public final class RoomTest {
         long before = bean.getThreadAllocatedBytes(id);
         NextStall x = new NextStall();
         long made = bean.getThreadAllocatedBytes(id) - before;
-        Due.is("an object has some thousand fields", x.count(0) + made / 100000, 0);
+        Due.is("bytes of a new object, in steps of 100000", x.count(0) + made / 100000, 0);
         Due.end();
     }
 
