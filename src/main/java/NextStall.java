@@ -1212,10 +1212,15 @@ public final class NextStall {
             System.arraycopy(other.tills, 0, tills, 0, MOST_NOTES);
         }
 
+        /** The first minute has the number 0, so behind it one has passed. */
+        private static int passedBehind(int minute) {
+            return minute + 1;
+        }
+
         /** Whether a fair that begins goes on as the notes say. */
         private boolean fit(Fair fair, Rule rule) {
             for (int i = 0; i < size; i++) {
-                fair.go(rule, minutes[i] - fair.minute, NONE);
+                fair.go(rule, passedBehind(minutes[i]) - fair.minute, NONE);
                 if (fair.till[stalls[i]] != tills[i]) {
                     return false;
                 }
@@ -1511,7 +1516,7 @@ public final class NextStall {
                 if (!world.notes.fit(from(world.told), rule)) {
                     continue;
                 }
-                from(world.told).go(rule, n, NONE);
+                from(world.told).go(rule, Notes.passedBehind(n), NONE);
                 System.arraycopy(fair.till, 0, tills, rows * MOST_STALLS, MOST_STALLS);
                 rows++;
             }

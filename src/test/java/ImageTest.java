@@ -29,7 +29,7 @@ public final class ImageTest {
         x.minute();
         x.force(0);
         x.seed(9);
-        x.note(1, 1, 16);
+        x.note(0, 1, 16);
         Due.is("image", x.image(0), 1);
         Due.is("ACTS stay", x.count(11), 1);
         x.minute();
@@ -80,7 +80,7 @@ public final class ImageTest {
     private static void anotherFair() {
         NextStall x = Due.of(MinuteTest.FAIR);
         x.minute();
-        x.note(1, 1, 16);
+        x.note(0, 1, 16);
         x.image(2);
         Due.fair(x, "fair 1 1;stall 1 1 1");
         Due.is("STALLS", x.count(2), 1);

@@ -90,6 +90,13 @@ final class Model {
             return paid;
         }
 
+        /** The minute of this number is the last that passes. */
+        void goThrough(List<Clause> rule, int last) {
+            while (minute <= last) {
+                pass(rule, NONE, false);
+            }
+        }
+
         int pass(List<Clause> rule, int absent, boolean rain) {
             int paid = 0;
             for (int b = 0; b < buyers.size() && !rain; b++) {
@@ -839,7 +846,7 @@ final class Model {
     private boolean fits(State begin, List<Clause> rule) {
         for (Note note : all.notes) {
             State s = begin.copy();
-            s.go(rule, note.n(), NONE);
+            s.goThrough(rule, note.n());
             if (s.stalls.get(note.stall())[3] != note.till()) {
                 return false;
             }
@@ -878,7 +885,7 @@ final class Model {
             Map<Integer, Integer> many = new HashMap<>();
             for (int r : fitting) {
                 State s = all.told.copy();
-                s.go(r < 0 ? null : rules.get(r), n, NONE);
+                s.goThrough(r < 0 ? null : rules.get(r), n);
                 many.merge(s.stalls.get(i)[3], 1, Integer::sum);
             }
             byAlike.putIfAbsent(Collections.max(many.values()), i);

@@ -199,8 +199,8 @@ public final class ModelTest {
     private void note(int a) {
         int n = number(-1, 60) % 12;
         int till = below(2) == 0 ? Math.max(0, stall.stall(a, 2)) : number(0, 9999) % 20;
-        if (below(2) == 0) {
-            n = stall.count(6);
+        if (below(2) == 0 && stall.count(6) > 0) {
+            n = stall.count(6) - 1;
         }
         due("note(" + n + ", " + a + ", " + till + ")", stall.note(n, a, till), model.note(n, a, till));
     }

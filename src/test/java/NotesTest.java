@@ -6,6 +6,8 @@ public final class NotesTest {
     public static void main(String[] args) {
         notes();
         ruled();
+        behindTheFirstMinute();
+        behindTheLastMinute();
         fromTheBegin();
         look();
         rings();
@@ -34,36 +36,76 @@ public final class NotesTest {
         Due.is("no ACT", x.count(11), 0);
     }
 
+    /** MINUTES have numbers from 0 on: behind the 0-th MINUTE 0 has passed. */
     private static void ruled() {
         NextStall x = Due.of(FAIR, RULES);
         Due.is("without NOTES", x.ruled(0), 4);
         Due.is("the first", x.ruled(1), -1);
-        x.note(1, 0, 3);
+        x.note(0, 0, 3);
         Due.is("none and 1", x.ruled(0), 2);
         Due.is("the first", x.ruled(1), -1);
         x.note(-1, 0, 0);
-        x.note(2, 1, 8);
+        x.note(1, 1, 8);
         Due.is("0 alone", x.ruled(0), 1);
         Due.is("the first", x.ruled(1), 0);
-        x.note(1, 1, 4);
+        x.note(0, 1, 4);
         Due.is("0 alone", x.ruled(0), 1);
-        x.note(3, 1, 0);
+        x.note(2, 1, 0);
         Due.is("at DUSK", x.ruled(0), 1);
-        x.note(1, 0, 3);
+        x.note(3, 1, 4);
+        Due.is("the day behind", x.ruled(0), 1);
+        x.note(0, 0, 3);
         Due.is("none such", x.ruled(0), 0);
         Due.is("none such", x.ruled(1), -2);
         x.note(-1, 0, 0);
-        x.note(1, 0, 0);
-        x.note(1, 1, 0);
+        x.note(0, 0, 0);
+        x.note(0, 1, 0);
         Due.is("2 alone", x.ruled(1), 2);
         Due.is("what 2", x.ruled(2), -3);
         Due.is("what -1", x.ruled(-1), -3);
     }
 
+    private static void behindTheFirstMinute() {
+        NextStall x = Due.of("fair 5 0;stall 5 3 2;buyer 50 0");
+        x.note(0, 0, 0);
+        Due.is("0 is not what the TILL has", x.ruled(0), 0);
+        Due.is("none such", x.ruled(1), -2);
+        ring(x, 0);
+        Due.is("no RULE is so", x.look(0, 1), -2);
+        x.note(-1, 0, 0);
+        x.note(0, 0, 3);
+        Due.is("3 is", x.ruled(0), 1);
+        ring(x, 1, 0);
+        Due.is("look", x.look(0, 1), 1);
+        Due.rule(x, "buy 0");
+        Due.is("with a NOTE none alone is so", x.look(0, 1), 1);
+        x.note(-1, 0, 0);
+        Due.is("no two are alike", x.look(0, 1), 1);
+        Due.is("the STALL", x.look(0, 0), 0);
+        Due.is("at DUSK both are", x.look(4, 1), 2);
+    }
+
+    private static void behindTheLastMinute() {
+        // By the RULE the first is bought in MINUTE 60; without one all 5 are sold and handed on by then.
+        NextStall x = Due.of("fair 20 0;stall 5 3 2;buyer 50 0", "buy 1 if day = 3");
+        Due.is("no two are alike", x.look(60, 1), 1);
+        Due.is("both are", x.look(59, 1), 2);
+        x.note(60, 0, 3);
+        Due.is("the RULE", x.ruled(0), 1);
+        Due.is("the RULE", x.ruled(1), 0);
+        Due.is("not without it", x.rings(-1), 0);
+        x.force(0);
+        ring(x, 1, 0);
+        x.note(59, 0, 0);
+        ring(x, 1, 0);
+        x.note(60, 0, 0);
+        ring(x, 0);
+    }
+
     private static void fromTheBegin() {
         NextStall x = Due.of(FAIR, RULES);
         x.force(2);
-        x.note(2, 1, 8);
+        x.note(1, 1, 8);
         x.minute();
         x.move(0, 1);
         x.price(0, 40);
@@ -71,26 +113,28 @@ public final class NotesTest {
         x.earn(0, 50);
         Due.is("as the text told it", x.ruled(1), 0);
         Due.is("as the text told it", x.ruled(0), 1);
+        Due.is("as the text told it", x.look(0, 1), 1);
         x.force(0);
         Due.is("as the text told it", x.rings(-1), 1);
     }
 
     private static void look() {
         NextStall x = Due.of(FAIR, RULES);
-        // TILLS behind the first: 3 0 by none, 0 4 by 0, 3 0 by 1, 0 0 by 2.
-        Due.is("the STALL", x.look(1, 0), 0);
-        Due.is("how many", x.look(1, 1), 2);
-        Due.is("at DUSK the least", x.look(3, 0), 0);
-        Due.is("at DUSK all", x.look(3, 1), 4);
-        Due.is("ahead of all", x.look(0, 1), 4);
-        x.note(1, 0, 0);
+        // TILLS behind MINUTE 0: 3 0 by none, 0 4 by 0, 3 0 by 1, 0 0 by 2.
+        Due.is("the STALL", x.look(0, 0), 0);
+        Due.is("how many", x.look(0, 1), 2);
+        Due.is("MINUTE 1", x.look(1, 1), 2);
+        Due.is("at DUSK the least", x.look(2, 0), 0);
+        Due.is("at DUSK all", x.look(2, 1), 4);
+        Due.is("the day behind", x.look(3, 1), 2);
+        x.note(0, 0, 0);
         // 0 and 2 are left.
+        Due.is("the STALL", x.look(0, 0), 1);
+        Due.is("how many", x.look(0, 1), 1);
         Due.is("the STALL", x.look(1, 0), 1);
-        Due.is("how many", x.look(1, 1), 1);
-        Due.is("the STALL", x.look(2, 0), 1);
-        x.note(1, 0, 1);
-        Due.is("no RULE is so", x.look(1, 0), -2);
-        Due.is("no RULE is so", x.look(1, 1), -2);
+        x.note(0, 0, 1);
+        Due.is("no RULE is so", x.look(0, 0), -2);
+        Due.is("no RULE is so", x.look(0, 1), -2);
         Due.is("n -1", x.look(-1, 0), -1);
         Due.is("n 61", x.look(61, 0), -1);
         Due.is("what 2", x.look(1, 2), -1);
@@ -107,20 +151,21 @@ public final class NotesTest {
     private static void rings() {
         NextStall x = Due.of(MinuteTest.FAIR, "buy 1");
         ring(x, 2, 0, 1, 2);
-        x.note(1, 1, 16);
+        x.note(0, 1, 16);
         ring(x, 1, 0, 1, 2);
         x.note(-1, 0, 0);
-        x.note(1, 1, 10);
+        x.note(0, 1, 10);
         ring(x, 1, 0, 2, 1);
         x.move(0, 2);
         ring(x, 1, 0, 2, 1);
         x.force(0);
         // By the RULE both buy goods of 0, sold by 2 as told, by 1 in the other ring.
         ring(x, 1, 0, 2, 1);
-        x.note(1, 1, 9);
+        x.note(0, 1, 9);
         ring(x, 0);
         x.note(-1, 0, 0);
-        x.note(0, 0, 0);
+        x.note(2, 1, 0);
+        // At DUSK all TILLS are handed on, in whatever ring.
         ring(x, 2, 0, 1, 2);
         Due.is("what 6", x.rings(6), -3);
         Due.is("what -2", x.rings(-2), -3);
