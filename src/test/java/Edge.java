@@ -153,6 +153,15 @@ final class Edge {
                 Due.fault(ahead.length(), kind));
     }
 
+    /** The word with one letter after another in place of which another one stands. */
+    static String[] misspelt(String word) {
+        String[] all = new String[word.length()];
+        for (int i = 0; i < all.length; i++) {
+            all[i] = word.substring(0, i) + "q" + word.substring(i + 1);
+        }
+        return all;
+    }
+
     /** One with this rule in force. */
     static NextStall ruledBy(String fair, String rule) {
         NextStall x = Due.of(fair, rule);

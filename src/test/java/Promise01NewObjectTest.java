@@ -10,6 +10,7 @@ public final class Promise01NewObjectTest {
         noneInForce();
         noImages();
         objectsShareNothing();
+        upToThe512thCall();
         Due.end();
     }
 
@@ -101,5 +102,18 @@ public final class Promise01NewObjectTest {
         }
         Due.is("no IMAGE of the first one", y.back(1), -1);
         Due.is("the first one is as it was", x.count(6), 3);
+    }
+
+    /** An object is used for at most 512 calls: all of them are answered as told. */
+    private static void upToThe512thCall() {
+        NextStall x = new NextStall();
+        // "fair 1 0;stall 1 1 1": call 1, and call 2 reads it.
+        x.feed(0x66616972, 0x20312030, 0x3b737461, 0x6c6c2031, 0x20312031);
+        Due.is("fair", x.fair(), 1);
+        for (int call = 3; call <= 510; call++) {
+            Due.is("call " + call, x.minute(), 0);
+        }
+        Due.is("call 511", x.undo(), 19);
+        Due.is("call 512", x.count(6), 507);
     }
 }

@@ -13,6 +13,7 @@ public final class Promise04FairTest {
         behindAFaultAllStays();
         behindAFaultThereIsStillNoFair();
         itBegins();
+        itBeginsWhateverWasAsked();
         Due.end();
     }
 
@@ -144,5 +145,27 @@ public final class Promise04FairTest {
             Due.is("grudges", x.stall(stall, 7), 0);
             Due.is("had", x.had(0, stall), 0);
         }
+    }
+
+    private static void itBeginsWhateverWasAsked() {
+        String fair = "fair 20 5" + ";stall 20 1 0".repeat(6) + ";buyer 99 0".repeat(6);
+        NextStall x = Due.of(fair);
+        // In 30 MINUTES all is bought, a day is over and another one has begun.
+        Due.is("taken", x.taken(30), 120);
+        Due.is("the same again", Due.fair(x, fair), 6);
+        Due.is("MINUTE", x.count(6), 0);
+        Due.is("GOODS", x.count(7), 120);
+        Due.is("WEALTH", x.count(8), 0);
+        for (int stall = 0; stall < 6; stall++) {
+            Due.is("sold", x.stall(stall, 8), 0);
+            for (int buyer = 0; buyer < 6; buyer++) {
+                Due.is("had", x.had(buyer, stall), 0);
+            }
+        }
+        NextStall y = Due.of(fair);
+        Due.is("taken ahead of DUSK", y.taken(9), 54);
+        Due.fair(y, fair);
+        Due.is("TILLS", y.count(9), 0);
+        Due.is("MINUTE", y.count(6), 0);
     }
 }

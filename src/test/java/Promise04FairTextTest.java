@@ -19,7 +19,9 @@ public final class Promise04FairTextTest {
         fourHundredBytes();
         fiveDigits();
         wordsGoOn();
+        everyLetterCounts();
         blanks();
+        nothingOfAnEarlierText();
         Due.end();
     }
 
@@ -177,6 +179,23 @@ public final class Promise04FairTextTest {
         Edge.fairFault("fair 1", ": 0", 0);
     }
 
+    private static void everyLetterCounts() {
+        for (String word : Edge.misspelt("fair")) {
+            Edge.fairFault("", word + " 1 0", 0);
+        }
+        for (String word : Edge.misspelt("stall")) {
+            Edge.fairFault("fair 1 0;", word + " 1 1 1", 0);
+        }
+        for (String word : Edge.misspelt("grudge")) {
+            Edge.fairFault(TWO + ";", word + " 0 1", 0);
+        }
+        for (String word : Edge.misspelt("buyer")) {
+            Edge.fairFault(TWO + ";", word + " 0 1", 0);
+        }
+        Edge.fairFault("", "faira 1 0", 0);
+        Edge.fairFault("", "fairz 1 0", 0);
+    }
+
     private static void blanks() {
         Edge.fairTaken("   fair   1   0   ;   stall   1   1   1   ", 1);
         Edge.fairFault("   ", "", 0);
@@ -186,5 +205,19 @@ public final class Promise04FairTextTest {
         Edge.fairFault("fair 1 0", "\u00a0", 0);
         Edge.fairFault("fair 1 0", "\u0000", 0);
         Edge.fairFault("", "f air 1 0", 0);
+    }
+
+    /** A text ends where it ends, whatever longer one was read ahead of it. */
+    private static void nothingOfAnEarlierText() {
+        String text = "fair 11 9;stall 11 11 11;stall 1 1 1;grudge 0 1;buyer 11 0";
+        for (int n = 0; n <= text.length(); n++) {
+            NextStall x = Due.of(text);
+            Due.is("the first " + n + " bytes", Due.fair(x, text.substring(0, n)), Due.fair(new NextStall(), text.substring(0, n)));
+        }
+        NextStall x = Due.of(text);
+        Due.is("a word that is cut", Due.fair(x, "fai"), Due.fault(0, 0));
+        Due.is("a number that is missing", Due.fair(x, "fair 1"), Due.fault(6, 0));
+        Due.is("a number that is cut", Due.fair(x, "fair 1 9"), 0);
+        Due.is("LONG", x.count(0), 1);
     }
 }

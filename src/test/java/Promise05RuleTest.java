@@ -5,6 +5,7 @@ public final class Promise05RuleTest {
         theTapeIsEmptyThen();
         theTapeIsEmptyBehindAFault();
         aFaultIsNoRule();
+        aFaultLeavesNothing();
         aSeventhIsRefused();
         aSeventhLeavesTheTape();
         rulesStayAsTheyWereTold();
@@ -44,6 +45,28 @@ public final class Promise05RuleTest {
         Due.is("the number is not used up", Due.rule(x, "buy 1 if had < 2"), 1);
         x.force(1);
         Due.is("nothing of the one with the FAULT is left", x.taken(9), 2);
+    }
+
+    /** However often a full text had a FAULT, a full one without is taken, and says what it says. */
+    private static void aFaultLeavesNothing() {
+        NextStall x = Due.of(Edge.ONE_A_DAY);
+        String full = "buy " + "1+".repeat(59) + "1";
+        for (int i = 0; i < 5; i++) {
+            Due.is("a FAULT", Due.rule(x, full + ";"), Due.fault(full.length() + 1, 0));
+            Due.is("a FAULT", Due.rule(x, "buy 1;".repeat(12)), Due.fault(72, 0));
+        }
+        Due.is("a full one", Due.rule(x, full + " - 60"), Due.fault(full.length() + 3, 3));
+        Due.is("a full one", Due.rule(x, full), 0);
+        Due.is("a short one", Due.rule(x, "buy 1 if had < 2"), 1);
+        x.force(1);
+        Due.is("two", x.taken(9), 2);
+        NextStall y = Due.of(Edge.ONE_A_DAY);
+        for (int i = 0; i < 5; i++) {
+            Due.rule(y, full + ";");
+        }
+        Due.is("in its place", Due.rule(y, "buy 1 if not had >= 3 and had + 1 < 9"), 0);
+        y.force(0);
+        Due.is("three", y.taken(9), 3);
     }
 
     private static NextStall sixRules(String text) {

@@ -12,11 +12,13 @@ public final class Promise05RuleTextTest {
         oneToFiveDigits();
         twelveWords();
         wordsGoOn();
+        everyLetterCounts();
         signs();
         anEmptySumOrTest();
         blanks();
         brackets();
         fourHundredBytes();
+        nothingOfAnEarlierText();
         Due.end();
     }
 
@@ -136,6 +138,31 @@ public final class Promise05RuleTextTest {
         Edge.ruleFault("buy ", "pricE", 0);
     }
 
+    private static void everyLetterCounts() {
+        for (String word : WORDS) {
+            for (String other : Edge.misspelt(word)) {
+                Edge.ruleFault("buy ", other, 0);
+            }
+            Edge.ruleFault("buy ", word + "a", 0);
+            Edge.ruleFault("buy ", word + "z", 0);
+        }
+        for (String word : Edge.misspelt("buy")) {
+            Edge.ruleFault("", word + " 1", 0);
+        }
+        for (String word : Edge.misspelt("if")) {
+            Edge.ruleFault("buy 1 ", word + " 1=1", 0);
+        }
+        for (String word : Edge.misspelt("not")) {
+            Edge.ruleFault("buy 1 if ", word + " 1=1", 0);
+        }
+        for (String word : Edge.misspelt("and")) {
+            Edge.ruleFault("buy 1 if 1=1 ", word + " 1=1", 0);
+        }
+        for (String word : Edge.misspelt("or")) {
+            Edge.ruleFault("buy 1 if 1=1 ", word + " 1=1", 0);
+        }
+    }
+
     private static void signs() {
         for (String sign : new String[] {"<", "<=", "=", ">=", ">"}) {
             Edge.ruleTaken("buy 1 if 1" + sign + "1");
@@ -151,6 +178,10 @@ public final class Promise05RuleTextTest {
         Edge.ruleFault("buy 1 if 1<=", "=1", 0);
         Edge.ruleFault("buy 1 if 1< ", "=1", 0);
         Edge.ruleFault("buy 1 if 1", "!=1", 0);
+        Edge.ruleFault("buy 1 if 1 ", "1", 0);
+        Edge.ruleFault("buy 1 if 1 ", "day", 0);
+        Edge.ruleFault("buy 1 if price ", "praise", 0);
+        Edge.ruleFault("buy 1 if 1 ", "and 1=1", 0);
         Edge.ruleFault("buy 1 if 1=1", "=1", 0);
         for (String sign : new String[] {"+", "-", "*", "/", "%"}) {
             Edge.ruleTaken("buy 1" + sign + "1");
@@ -205,5 +236,21 @@ public final class Promise05RuleTextTest {
         Edge.ruleTaken("buy 1 if 1=1" + " ".repeat(380) + "or 1=day");
         Edge.ruleFault("buy 1 if 1=1" + " ".repeat(380) + "or 1=", "dax", 0);
         Edge.ruleFault("buy 1 if 1=1" + " ".repeat(383) + "or 1=", "", 0);
+    }
+
+    /** A text ends where it ends, whatever longer one was read ahead of it. */
+    private static void nothingOfAnEarlierText() {
+        String text = "buy 11 if 11<=11 and not [12>=day or price=11];buy praise*11";
+        for (int n = 0; n <= text.length(); n++) {
+            NextStall x = new NextStall();
+            Due.rule(x, text);
+            int due = Due.rule(new NextStall(), text.substring(0, n));
+            Due.is("the first " + n + " bytes", Due.rule(x, text.substring(0, n)), due == 0 ? 1 : due);
+        }
+        NextStall x = new NextStall();
+        Due.rule(x, text);
+        Due.is("a sign that is cut", Due.rule(x, "buy 11 if 11<"), Due.fault(13, 0));
+        Due.is("a word that is cut", Due.rule(x, "bu"), Due.fault(0, 0));
+        Due.is("a bracket that is missing", Due.rule(x, text.substring(0, 45)), Due.fault(45, 0));
     }
 }

@@ -7,6 +7,8 @@ public final class Promise06RuleWordsTest {
         byNought();
         roundIn64Bits();
         towardsNought();
+        notAndOr();
+        tenDeep();
         aSumAboveNought();
         theGreatestSumThereIs();
         zeroWithoutAClause();
@@ -58,6 +60,37 @@ public final class Promise06RuleWordsTest {
         holds(LEAST + " % 2 = 0", true);
         holds("7 % 7 = 0", true);
         holds("6 % 7 = 6", true);
+    }
+
+    private static void notAndOr() {
+        String[] facts = {"1 = 2", "1 = 1"};
+        for (int a = 0; a < 2; a++) {
+            holds("not " + facts[a], a == 0);
+            holds("not not " + facts[a], a == 1);
+            for (int b = 0; b < 2; b++) {
+                holds(facts[a] + " and " + facts[b], a + b == 2);
+                holds(facts[a] + " or " + facts[b], a + b > 0);
+                holds("not " + facts[a] + " and " + facts[b], a == 0 && b == 1);
+                holds(facts[a] + " or not " + facts[b], a == 1 || b == 0);
+                holds("not [" + facts[a] + " and " + facts[b] + "]", a + b < 2);
+                for (int c = 0; c < 2; c++) {
+                    holds(facts[a] + " or " + facts[b] + " and " + facts[c], a == 1 || b + c == 2);
+                    holds("[" + facts[a] + " or " + facts[b] + "] and " + facts[c], a + b > 0 && c == 1);
+                }
+            }
+        }
+    }
+
+    private static void tenDeep() {
+        holds("not ".repeat(10) + "1 = 1", true);
+        holds("not ".repeat(9) + "1 = 1", false);
+        holds("not [".repeat(5) + "1 = 1" + "]".repeat(5), false);
+        holds("[".repeat(10) + "1 = 1" + "]".repeat(10), true);
+        holds("1 = 2 or " + "[1 = 1 and ".repeat(10) + "1 = 1" + "]".repeat(10), true);
+        holds("1 = 2 or " + "[1 = 1 and ".repeat(10) + "1 = 2" + "]".repeat(10), false);
+        // A VALUE, then as many as there may be: each sign and each VALUE counts.
+        holds("1" + "+1".repeat(56) + " = 57", true);
+        holds("1" + "+1".repeat(56) + " = 58", false);
     }
 
     private static void aSumAboveNought() {

@@ -7,6 +7,7 @@ public final class Promise08BuyerTest {
         goodsThatAreLeft();
         allSixAsBits();
         anEmptyPurse();
+        nothingChanges();
         Due.end();
     }
 
@@ -59,5 +60,13 @@ public final class Promise08BuyerTest {
         Due.is("nothing", x.buyer(0, 2), 0);
         Due.is("nothing is bought", x.minute(), 0);
         Due.is("PURSE", x.buyer(0, 0), 0);
+    }
+
+    private static void nothingChanges() {
+        int[] due = {2, 1, 2};
+        for (int what = 0; what <= 2; what++) {
+            int asked = what;
+            Edge.unchanged("buyer(0, " + what + ")", due[what], Edge::rich, x -> x.buyer(0, asked));
+        }
     }
 }

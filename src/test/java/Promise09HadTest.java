@@ -6,6 +6,7 @@ public final class Promise09HadTest {
         theLastOfBoth();
         fromNoneToAll();
         undone();
+        nothingChanges();
         Due.end();
     }
 
@@ -46,5 +47,9 @@ public final class Promise09HadTest {
         x.minute();
         x.undo();
         Due.is("had", x.had(0, 0), 0);
+    }
+
+    private static void nothingChanges() {
+        Edge.unchanged("had(1, 2)", 1, Edge::rich, x -> x.had(1, 2));
     }
 }

@@ -11,6 +11,7 @@ public final class Promise22RestsTest {
         theMostPrices();
         theLeastPrices();
         pricesBetween();
+        theCheaperOneSells();
         allOrNone();
         theTwentiethMinute();
         theFirstByTheFirstOne();
@@ -71,6 +72,16 @@ public final class Promise22RestsTest {
     private static void pricesBetween() {
         rests("5 and 7", purses(5, 7), 1, 1, 4, 6);
         rests("8 and 4", purses(8, 4), 1, 1, 8, 4);
+    }
+
+    /** Of several prices alike 0's is bought: each would go below the other's, down to 2. */
+    private static void theCheaperOneSells() {
+        String fair = "fair 1 0;stall 1 5 0;stall 1 5 0;buyer 10 0";
+        rests("the cheaper", Edge.ruledBy(fair, "buy 20 - price"), 1, 1, 2, 2);
+        // The dearer one sells, of several alike 0: 10 by 0, whatever 1 takes.
+        rests("the dearer", Edge.ruledBy(fair, "buy price"), 1, 5, 10, 2);
+        // The dearer one sells, of several alike 1: 10 by 1, whatever 0 takes.
+        rests("the dearer", Edge.ruledBy(fair, "buy price * 2 + stall"), 1, 5, 2, 10);
     }
 
     private static void allOrNone() {

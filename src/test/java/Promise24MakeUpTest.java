@@ -8,6 +8,7 @@ public final class Promise24MakeUpTest {
         minutes1To40();
         whats0To2();
         noGrudges();
+        noGrudgeIsMade();
         ofSeveralNone();
         ofSeveralTheLeastWho();
         againstWhom();
@@ -41,6 +42,12 @@ public final class Promise24MakeUpTest {
         makeUp("no grudges", Due.of(Edge.ONE_A_DAY), 40, 20, -2, -2);
         makeUp("no STALLS", Due.of("fair 1 0"), 40, 0, -2, -2);
         makeUp("no BUYERS", Due.of(Edge.SIX_STALLS), 40, 0, -2, -2);
+    }
+
+    private static void noGrudgeIsMade() {
+        makeUp("one would be of use", Edge.ruledBy(Edge.SIX_STALLS + ";buyer 9 0", "buy 1 if grudge = 1"), 9, 0, -2, -2);
+        makeUp("another would be of use", Edge.ruledBy(DEAR, "buy 1 if grudge = 1 and stall = 1"), 9, 0, -2, -2);
+        makeUp("alone", Edge.ruledBy(Edge.ONE_A_DAY, "buy 1 if grudge = 1"), 9, 0, -2, -2);
     }
 
     private static void ofSeveralNone() {

@@ -10,6 +10,7 @@ public final class Promise33RainsTest {
         onceAndTenTimes();
         theSixtiethMinute();
         belowP();
+        aDrawIsDownwards();
         drawsGoRound();
         drawsGoOnFromTimeToTime();
         minutesGoOnInTheRain();
@@ -82,6 +83,17 @@ public final class Promise33RainsTest {
         rains("15 is below 16", x, mnp(1, 4, 16), 2, 18);
         rains("58 is not below 58", x, mnp(1, 4, 58), 1, 19);
         rains("58 is below 59", x, mnp(1, 4, 59), 0, 20);
+    }
+
+    private static void aDrawIsDownwards() {
+        NextStall x = Due.of(Edge.ONE_A_DAY);
+        // 1836426883 becomes 38 * 65536, 2126232350 one less.
+        x.seed(1836426883);
+        rains("38 is not below 38", x, mnp(1, 1, 38), 1, 19);
+        rains("38 is below 39", x, mnp(1, 1, 39), 0, 20);
+        x.seed(2126232350);
+        rains("37 is not below 37", x, mnp(1, 1, 37), 1, 19);
+        rains("37 is below 38", x, mnp(1, 1, 38), 0, 20);
     }
 
     private static void drawsGoRound() {

@@ -8,6 +8,7 @@ public final class Promise36BackTest {
         imagesStay();
         theRuleInForceAsItWas();
         notesAndXAsTheyWere();
+        notesOfAllKinds();
         acrossFairs();
         goesOnAsItDid();
         Due.end();
@@ -95,6 +96,28 @@ public final class Promise36BackTest {
         x.note(5, 0, 9);
         x.back(0);
         Due.is("the NOTE that was told", x.ruled(0), 1);
+    }
+
+    private static void notesOfAllKinds() {
+        // 1 sells 0's goods, which are bought without a RULE: TILLS behind MINUTE 0 are 0 and 1, then 0 and 2.
+        NextStall x = Due.of("fair 20 0;stall 20 1 0;stall 20 2 0;buyer 99 0");
+        int[][] told = {{0, 1, 1}, {1, 1, 2}, {0, 0, 0}, {1, 0, 0}};
+        for (int k = 0; k < 4; k++) {
+            x.note(-1, 0, 0);
+            x.note(told[k][0], told[k][1], told[k][2]);
+            x.image(k);
+        }
+        int[][] other = {{0, 0, 9}, {5, 1, 9}, {9, 0, 9}};
+        for (int[] note : other) {
+            for (int k = 0; k < 4; k++) {
+                x.note(-1, 0, 0);
+                x.note(note[0], note[1], note[2]);
+                Due.is("not so", x.ruled(0), 0);
+                x.back(k);
+                Due.is("NOTES", x.count(10), 1);
+                Due.is("so", x.ruled(0), 1);
+            }
+        }
     }
 
     private static void acrossFairs() {
