@@ -862,7 +862,7 @@ public final class NextStall {
         }
 
         private void tellWords(Fair fair, int buyer, int stall) {
-            int lasts = Math.max(1, fair.lasts);
+            int lasts = fair.lasts > 0 ? fair.lasts : 1;
             words[0] = buyer;
             words[1] = stall;
             words[2] = fair.purse[buyer];
@@ -884,6 +884,9 @@ public final class NextStall {
                 int kind = steps[i] & (1 << KIND_BITS) - 1;
                 int number = steps[i] >> KIND_BITS;
                 if (kind == NUMBER || kind == WORD) {
+                    if (top >= stack.length || kind == WORD && number >= WORD_COUNT) {
+                        return 0;
+                    }
                     stack[top] = kind == NUMBER ? number : words[number];
                     top++;
                     continue;
@@ -891,7 +894,7 @@ public final class NextStall {
                 if (kind != NOT) {
                     top--;
                 }
-                if (top < 1) {
+                if (top < 1 || top >= stack.length) {
                     return 0;
                 }
                 long a = stack[top - 1];
@@ -922,7 +925,7 @@ public final class NextStall {
                         a = b == 0 ? 0 : a % b;
                         break;
                     default:
-                        a = number >> 1 + Long.compare(a, b) & 1;
+                        a = number >> (a < b ? 0 : a == b ? 1 : 2) & 1;
                         break;
                 }
                 stack[top - 1] = a;
